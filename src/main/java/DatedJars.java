@@ -468,7 +468,10 @@ public final class DatedJars {
         int firstToOpen(int h, int law, int year) {
             int first = NONE;
             for (int j = 0; j < count; j++) {
-                if (isOf(j, h) && mayBeOpened(j, law, year) && (first == NONE || date[j] < date[first])) {
+                if (owner[j] != h || (gone >> j & 1) == 1 || !mayBeOpened(j, law, year)) {
+                    continue;
+                }
+                if (first == NONE || date[j] < date[first]) {
                     first = j;
                 }
             }
@@ -843,11 +846,17 @@ public final class DatedJars {
             }
             for (int k = n - 1; k >= 0; k--) {
                 lookAtYear(land, h, k);
-                for (int used = 0; used < 1 << count; used++) {
+                // nothing can be opened ahead of the first year
+                int sets = k == 0 ? 1 : 1 << count;
+                for (int used = 0; used < sets; used++) {
                     leastFrom[k][used] = leastHunger(leastFrom[k + 1], used);
                 }
             }
             hunger = leastFrom[0][0];
+            chooseSets(land, h, n);
+        }
+
+        private void chooseSets(Land land, int h, int n) {
             int used = 0;
             for (int k = 0; k < n; k++) {
                 lookAtYear(land, h, k);
@@ -875,14 +884,19 @@ public final class DatedJars {
         }
 
         private int hungerWith(int set, int[] after, int used) {
-            return Math.max(missing - filled[set], 0) + after[used | set];
+            int lack = missing - filled[set];
+            return (lack > 0 ? lack : 0) + after[used | set];
         }
 
         private int leastHunger(int[] after, int used) {
             int free = mayOpen & ~used;
             int least = hungerWith(0, after, used);
-            for (int set = free; set > 0; set = (set - 1) & free) {
-                least = Math.min(least, hungerWith(set, after, used));
+            // a year without hunger is no year to open in: later years can only lose by it
+            for (int set = missing > 0 ? free : 0; set > 0; set = (set - 1) & free) {
+                int hungerThen = hungerWith(set, after, used);
+                if (hungerThen < least) {
+                    least = hungerThen;
+                }
             }
             return least;
         }

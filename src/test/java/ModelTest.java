@@ -1,0 +1,154 @@
+import java.util.Random;
+
+/** Random runs of calls, compared with the Model; the draws are the same in every run of the test. */
+public final class ModelTest {
+    private static final Checks c = new Checks("ModelTest");
+    private static final int RUNS = 400;
+    private static final int CALLS = 240;
+    private static final String[] PIECES = {"house", "jar", "harvest", "plain", "plum", "glass", " ", " ", ",", ";", ";",
+        "0", "1", "20", "21", "99", "100", "0001", "x", "?", "house 1 1;", "jar plum 0 1 1 1;", "harvest 3,4;"};
+
+    private final DatedJars x = new DatedJars();
+    private final Model m = new Model();
+    private final Random r;
+    private final String run;
+
+    private ModelTest(long seed) {
+        r = new Random(seed);
+        run = "run " + seed + ": ";
+    }
+
+    public static void main(String[] args) {
+        for (int i = 0; i < RUNS; i++) {
+            new ModelTest(i).go();
+        }
+        for (int i = 0; i < 4000; i++) {
+            new ModelTest(100000 + i).oneText();
+        }
+        c.finish();
+    }
+
+    private void go() {
+        tell(goodText());
+        for (int i = 0; i < CALLS; i++) {
+            oneCall();
+        }
+        lookAtAll();
+    }
+
+    private void oneText() {
+        StringBuilder s = new StringBuilder(r.nextBoolean() ? "" : goodText());
+        if (r.nextInt(3) == 0 && s.length() > 0) {
+            int at = r.nextInt(s.length());
+            s.replace(at, at + 1, PIECES[r.nextInt(PIECES.length)]);
+        } else {
+            for (int i = r.nextInt(12); i > 0; i--) {
+                s.append(PIECES[r.nextInt(PIECES.length)]);
+            }
+        }
+        tell(s.toString());
+        lookAtAll();
+    }
+
+    private void tell(String text) {
+        for (int i = 0; i < text.length(); i++) {
+            same("feed", x.feed(1, text.charAt(i)), m.feed(1, text.charAt(i)));
+        }
+        same("land of '" + text + "'", x.land(), m.land());
+        same("fault of '" + text + "'", x.fault(), m.fault());
+    }
+
+    private String goodText() {
+        StringBuilder s = new StringBuilder();
+        if (r.nextInt(5) > 0) {
+            s.append("harvest ").append(r.nextInt(40));
+            for (int i = r.nextInt(8); i > 0; i--) {
+                s.append(',').append(r.nextInt(r.nextBoolean() ? 8 : 60));
+            }
+            s.append(';');
+        }
+        int houses = r.nextInt(8) == 0 ? r.nextInt(5) : 2 + r.nextInt(3);
+        for (int h = 0; h < houses; h++) {
+            s.append("house ").append(r.nextInt(40)).append(' ').append(r.nextInt(3) == 0 ? 0 : r.nextInt(21)).append(';');
+        }
+        int favoured = r.nextInt(4);
+        for (int j = houses == 0 ? 0 : r.nextInt(13); j > 0; j--) {
+            int h = favoured < houses && r.nextBoolean() ? favoured : r.nextInt(houses);
+            s.append("jar ").append(new String[] {"plain", "plum", "glass"}[r.nextInt(3)]).append(' ').append(h)
+                .append(' ').append(r.nextInt(r.nextInt(4) == 0 ? 100 : 8)).append(' ').append(1 + r.nextInt(r.nextInt(4) == 0 ? 99 : 25))
+                .append(' ').append(r.nextInt(r.nextInt(4) == 0 ? 100 : 6)).append(';');
+        }
+        return s.toString();
+    }
+
+    private void same(String call, int got, int want) {
+        c.due(run + call, got, want);
+    }
+
+    private void lookAtAll() {
+        for (int what = -1; what <= 10; what++) {
+            same("told(" + what + ")", x.told(what), m.told(what));
+        }
+        for (int h = -1; h <= 4; h++) {
+            for (int what = -1; what <= 5; what++) {
+                same("house(" + h + ", " + what + ")", x.house(h, what), m.house(h, what));
+            }
+        }
+        for (int j = -1; j <= 24; j++) {
+            for (int what = -1; what <= 8; what++) {
+                same("jar(" + j + ", " + what + ")", x.jar(j, what), m.jar(j, what));
+            }
+        }
+    }
+
+    private int someHouse() {
+        int h = Math.max(1, m.told(0));
+        return r.nextInt(20) == 0 ? r.nextInt(7) - 1 : r.nextInt(h);
+    }
+
+    private int someJar() {
+        int j = Math.max(1, m.told(1));
+        return r.nextInt(20) == 0 ? r.nextInt(27) - 1 : r.nextInt(j);
+    }
+
+    private int upTo(int least, int most) {
+        return r.nextInt(25) == 0 ? (r.nextBoolean() ? least - 1 : most + 1) : least + r.nextInt(most - least + 1);
+    }
+
+    private void oneCall() {
+        int h = someHouse();
+        int j = someJar();
+        int a;
+        int b;
+        switch (r.nextInt(31)) {
+            case 0: a = upTo(0, 2); same("law(" + a + ")", x.law(a), m.law(a)); break;
+            case 1: a = upTo(0, 20); same("seals(" + h + ", " + a + ")", x.seals(h, a), m.seals(h, a)); break;
+            case 2: case 3: same("give(" + j + ", " + h + ")", x.give(j, h), m.give(j, h)); break;
+            case 4: a = r.nextInt(9) == 0 ? upTo(0, 9999) : Math.max(0, m.told(3) + r.nextInt(9) - 3);
+                same("label(" + j + ", " + a + ")", x.label(j, a), m.label(j, a)); break;
+            case 5: same("open(" + j + ")", x.open(j), m.open(j)); break;
+            case 6: a = r.nextInt(12) == 0 ? upTo(1, 99) : 1; same("year(" + a + ")", x.year(a), m.year(a)); break;
+            case 7: a = r.nextInt(12) == 0 ? upTo(1, 99) : 1; same("drift(" + a + ")", x.drift(a), m.drift(a)); break;
+            case 8: case 9: case 10: a = upTo(1, r.nextInt(4) == 0 ? 12 : 5); b = upTo(-1, a - 1);
+                same("plan(" + h + ", " + a + ", " + b + ")", x.plan(h, a, b), m.plan(h, a, b)); break;
+            case 11: case 12: a = upTo(1, r.nextBoolean() ? 60 : 8);
+                same("sealing(" + h + ", " + a + ")", x.sealing(h, a), m.sealing(h, a)); break;
+            case 13: a = upTo(1, r.nextInt(5) == 0 ? 20 : 6); same("change(" + a + ")", x.change(a), m.change(a)); break;
+            case 14: case 15: same("bequest(" + h + ", NONE)", x.bequest(h, -1), m.bequest(h, -1)); break;
+            case 16: case 17: same("bequest(" + h + ", " + j + ")", x.bequest(h, j), m.bequest(h, j)); break;
+            case 18: a = upTo(1, 20); b = upTo(0, a); same("siege(" + a + ", " + b + ")", x.siege(a, b), m.siege(a, b)); break;
+            case 19: a = upTo(1, 20); b = upTo(0, r.nextBoolean() ? 30 : 999);
+                same("when(" + a + ", " + b + ")", x.when(a, b), m.when(a, b)); break;
+            case 20: case 21: a = someJar(); same("older(" + j + ", " + a + ")", x.older(j, a), m.older(j, a)); break;
+            case 22: same("forged()", x.forged(), m.forged()); break;
+            case 23: case 24: case 25: a = r.nextInt(6) == 0 ? upTo(0, 9999) : m.told(3) + m.told(9) + r.nextInt(5);
+                same("write(" + a + ", " + j + ")", x.write(a, j), m.write(a, j)); break;
+            case 26: if (r.nextInt(8) == 0) { same("tear()", x.tear(), m.tear()); } break;
+            case 27: same("judge()", x.judge(), m.judge()); break;
+            case 28: a = r.nextInt(); same("seed(" + a + ")", x.seed(a), m.seed(a)); break;
+            case 29: a = upTo(0, 1); same("keep(" + a + ")", x.keep(a), m.keep(a)); break;
+            default: a = upTo(0, 1); same("goBack(" + a + ")", x.goBack(a), m.goBack(a)); break;
+        }
+        same("told(7)", x.told(7), m.told(7));
+    }
+}
