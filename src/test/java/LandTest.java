@@ -9,6 +9,7 @@ public final class LandTest {
         feedingTakesTheLowBytes();
         landsWithoutFault();
         firstFaults();
+        textsThatEndWithin();
         secondFaults();
         thirdFaults();
         faultChangesNothing();
@@ -119,6 +120,12 @@ public final class LandTest {
         bad("housejar 1 1;", 1, 0);
         bad("jarplain 0 1 1 1;", 1, 0);
         bad("plain 0 1 1 1;", 1, 0);
+        bad("jarz plain 0 1 1 1;", 1, 0);
+        bad("jara plain 0 1 1 1;", 1, 0);
+        bad("jar`plain 0 1 1 1;", 1, 3);
+        bad("jar{plain 0 1 1 1;", 1, 3);
+        bad("house 1/1;", 1, 7);
+        bad("house 1:1;", 1, 7);
         bad("house", 1, 5);
         bad("house   ", 1, 8);
         bad("houseX 1;", 1, 5);
@@ -151,6 +158,27 @@ public final class LandTest {
         bad("house 1 1;jar plain 0 1 1;", 1, 25);
         bad("house 1 1;jar plain 0 1 1 1 1;", 1, 28);
         bad("house 1 1;jar plain 0 1 1 1", 1, 27);
+    }
+
+    /** The end is the text's own, whatever stood behind it in a text ahead of it. */
+    private static void textsThatEndWithin() {
+        String whole = "harvest 10,11;house 10 11;jar plain 0 10 11 12;";
+        for (int length = 1; length < whole.length(); length++) {
+            DatedJars x = Checks.landOf(whole);
+            DatedJars fresh = new DatedJars();
+            String cut = whole.substring(0, length);
+            c.due("land of '" + cut + "' behind another", Checks.tell(x, cut), Checks.tell(fresh, cut));
+            c.due("fault of '" + cut + "' behind another", x.fault(), fresh.fault());
+        }
+        String[] ends = {"house 1 1", "house 1 ", "house", "harvest 1,", "harvest 1", "hous"};
+        int[] faults = {400, 400, 400, 400, 400, 396};
+        for (int i = 0; i < ends.length; i++) {
+            StringBuilder full = new StringBuilder();
+            while (full.length() + ends[i].length() < 400) {
+                full.append(' ');
+            }
+            bad(full.append(ends[i]).toString(), 1, faults[i]);
+        }
     }
 
     private static void secondFaults() {
@@ -220,6 +248,9 @@ public final class LandTest {
         x.write(0, 1);
         x.keep(0);
         x.keep(1);
+        x.open(1);
+        x.siege(4, 4);
+        x.sealing(0, 9);
         Checks.tell(x, "?");
         c.due("another land", Checks.tell(x, "house 7 1;house 8 0;jar plum 1 3 4 5;"), 2);
         c.due("no fault any more", x.fault(), -1);

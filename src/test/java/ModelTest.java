@@ -22,6 +22,7 @@ public final class ModelTest {
         for (int i = 0; i < RUNS; i++) {
             new ModelTest(i).go();
         }
+        new ModelTest(-1).manyChanges();
         for (int i = 0; i < 4000; i++) {
             new ModelTest(100000 + i).oneText();
         }
@@ -32,7 +33,33 @@ public final class ModelTest {
         tell(goodText());
         for (int i = 0; i < CALLS; i++) {
             oneCall();
+            if (r.nextInt(CALLS) == 0) {
+                tell(r.nextInt(3) == 0 ? "house 1 1;?" : goodText());
+            }
         }
+        lookAtAll();
+    }
+
+    /** 24 jars that can be changed about more often than once is allowed. */
+    private void manyChanges() {
+        tell("harvest 99,99,99,12,8,33,30,24;house 34 20;house 97 20;house 39 20;house 88 20;"
+            + "jar plain 2 6 70 18;jar plum 0 5 49 4;jar glass 1 22 51 9;jar plum 2 13 55 0;jar plum 0 10 5 9;jar plum 3 15 5 13;"
+            + "jar plain 3 14 73 0;jar glass 2 21 37 2;jar plum 3 12 2 12;jar plain 2 15 4 1;jar glass 2 9 84 16;jar plain 0 8 5 14;");
+        same("year(3)", x.year(3), m.year(3));
+        for (int h = 0; h < 4; h++) {
+            same("seals", x.seals(h, 0), m.seals(h, 0));
+        }
+        int[] owners = {2, 3, 0, 0, 1, 1, 3, 1, 0, 3, 3, 0};
+        int[] dates = {18, 21, 13, 3, 4, 16, 9, 15, 10, 4, 16, 13};
+        for (int i = 0; i < 12; i++) {
+            same("give", x.give(12 + i, owners[i]), m.give(12 + i, owners[i]));
+            same("label", x.label(12 + i, dates[i]), m.label(12 + i, dates[i]));
+        }
+        same("change(20)", x.change(20), 20);
+        same("change(20) of the model", 20, m.change(20));
+        lookAtAll();
+        same("change(20) again", x.change(20), 2);
+        same("change(20) again of the model", 2, m.change(20));
         lookAtAll();
     }
 

@@ -114,6 +114,12 @@ public final class TriedTest {
         c.due("sealing for the one bad year", y.sealing(0, 4), 3);
         y.law(0);
         c.due("by law 0 each S up to it does", y.sealing(0, 4), 1);
+        // hunger in the years 4, 12, 20, jars for the first two of them, a stock to seal now
+        DatedJars far = Checks.landOf("harvest 5,5,5,5,0,5,5,5;house 5 0;jar glass 0 4 5 0;jar glass 0 12 5 0;jar glass 0 0 5 0;");
+        far.law(1);
+        far.open(2);
+        c.due("S of 20", far.sealing(0, 21), 20);
+        c.due("S of 0: the year 20 is not among these", far.sealing(0, 20), 0);
         DatedJars z = Checks.landOf("harvest 20,0;house 20 0;house 10 7;");
         c.due("a house that has nothing left", z.sealing(0, 60), 0);
         c.due("S stays as it was", z.house(1, 1), 7);
@@ -154,6 +160,9 @@ public final class TriedTest {
         c.due("hunger of both now", hungerOf(y, 2), 0);
         c.due("change(2) again", y.change(2), 0);
         c.due("the year stays", y.told(3), 0);
+        DatedJars least = Checks.landOf("harvest 0;house 1 0;house 1 0;jar glass 0 0 1 0;jar glass 0 0 1 0;jar glass 1 1 1 0;jar glass 1 1 1 0;");
+        least.law(1);
+        c.due("a hunger of 1 each", least.change(2), 1);
         // in one year alone only 1 gains
         DatedJars z = Checks.landOf("harvest 0;house 5 0;house 5 0;jar glass 0 0 5 0;jar glass 0 0 5 0;jar glass 1 1 5 0;jar glass 1 1 5 0;");
         z.law(1);
