@@ -14,6 +14,7 @@ public final class DatedJars {
     private static final int MOST_CHANGES = 20;
     private static final int MOST_GLASS = 12;
     private static final int MOST_OPENINGS = 30;
+    private static final int MORE_THAN_ANY = 1000000000;
 
     private static final int PLAIN = 0, PLUM = 1, GLASS = 2;
     private static final int FROM_ITS_DATE = 0, ON_ITS_DATE = 1, ANY_YEAR = 2;
@@ -211,7 +212,7 @@ public final class DatedJars {
             return OUTSIDE;
         }
         int best = 0;
-        int least = Integer.MAX_VALUE;
+        int least = MORE_THAN_ANY;
         for (int s = 0; s <= MOST_SEALS; s++) {
             trial.copyFrom(now);
             trial.seals[h] = s;
@@ -891,7 +892,8 @@ public final class DatedJars {
         private int leastHunger(int[] after, int used) {
             int free = mayOpen & ~used;
             int least = hungerWith(0, after, used);
-            // a year without hunger is no year to open in: later years can only lose by it
+            // a year without hunger is no year to open in: later years can only lose by it;
+            // each step takes the next lesser set of free ones, down to the empty one
             for (int set = missing > 0 ? free : 0; set > 0; set = (set - 1) & free) {
                 int hungerThen = hungerWith(set, after, used);
                 if (hungerThen < least) {
@@ -946,7 +948,7 @@ public final class DatedJars {
             for (int i = 0; i < count; i++) {
                 tried[i] = 0;
             }
-            leastDifference = Integer.MAX_VALUE;
+            leastDifference = MORE_THAN_ANY;
             int ways = countWays();
             for (int way = 0; way < ways; way++) {
                 int differs = differenceOf(land.cellar);
@@ -1024,7 +1026,7 @@ public final class DatedJars {
         int fewestForged(Cellar cellar) {
             int wrong = findContradicted(cellar);
             int best = 0;
-            int fewest = Integer.MAX_VALUE;
+            int fewest = MORE_THAN_ANY;
             for (int choice = 0; choice < 1 << wrong; choice++) {
                 int set = 0;
                 for (int i = 0; i < wrong; i++) {

@@ -22,7 +22,8 @@ public final class LanguageTest {
         + "siege(int,int) when(int,int) older(int,int) forged() write(int,int) tear() judge() seed(int) keep(int) goBack(int)";
     private static final List<String> NOT_WRITTEN = List.of("\\bthrow\\b", "\\bthrows\\b", "\\btry\\b", "\\bcatch\\b", "\\bfinally\\b",
         "\\bsynchronized\\b", "\\bassert\\b", "\\bimport\\b", "\\bpackage\\b", "->", "::", "Exact\\b", "\\bthis\\.getClass\\b", "@",
-        "\\bSystem\\.(?!arraycopy\\b)", "\\bstatic\\s*\\{", "\\bwhile \\(true\\)", "for \\(;;", "\\bdouble\\b", "\\bfloat\\b");
+        "\\bSystem\\.(?!arraycopy\\b)", "\\bstatic\\s*\\{", "\\bwhile \\(true\\)", "for \\(;;", "\\bdouble\\b", "\\bfloat\\b",
+        "\\b(Integer|Long|Math)\\.(?![a-z]\\w*\\()");
 
     public static void main(String[] args) throws IOException {
         face();

@@ -130,16 +130,25 @@ public final class ModelTest {
 
     private int someHouse() {
         int h = Math.max(1, m.told(0));
-        return r.nextInt(20) == 0 ? r.nextInt(7) - 1 : r.nextInt(h);
+        return r.nextInt(20) == 0 ? strange(r.nextInt(7) - 1) : r.nextInt(h);
     }
 
     private int someJar() {
         int j = Math.max(1, m.told(1));
-        return r.nextInt(20) == 0 ? r.nextInt(27) - 1 : r.nextInt(j);
+        return r.nextInt(20) == 0 ? strange(r.nextInt(27) - 1) : r.nextInt(j);
+    }
+
+    private int strange(int near) {
+        int[] far = {Integer.MIN_VALUE, Integer.MAX_VALUE, DatedJars.UNKNOWN, 1 << 16, 32};
+        return r.nextInt(3) == 0 ? far[r.nextInt(far.length)] : near;
     }
 
     private int upTo(int least, int most) {
-        return r.nextInt(25) == 0 ? (r.nextBoolean() ? least - 1 : most + 1) : least + r.nextInt(most - least + 1);
+        return r.nextInt(25) == 0 ? strange(r.nextBoolean() ? least - 1 : most + 1) : least + r.nextInt(most - least + 1);
+    }
+
+    private static int within(int a, int most) {
+        return Math.max(0, Math.min(a, most));
     }
 
     private void oneCall() {
@@ -156,14 +165,14 @@ public final class ModelTest {
             case 5: same("open(" + j + ")", x.open(j), m.open(j)); break;
             case 6: a = r.nextInt(12) == 0 ? upTo(1, 99) : 1; same("year(" + a + ")", x.year(a), m.year(a)); break;
             case 7: a = r.nextInt(12) == 0 ? upTo(1, 99) : 1; same("drift(" + a + ")", x.drift(a), m.drift(a)); break;
-            case 8: case 9: case 10: a = upTo(1, r.nextInt(4) == 0 ? 12 : 5); b = upTo(-1, a - 1);
+            case 8: case 9: case 10: a = upTo(1, r.nextInt(4) == 0 ? 12 : 5); b = upTo(-1, within(a, 12) - 1);
                 same("plan(" + h + ", " + a + ", " + b + ")", x.plan(h, a, b), m.plan(h, a, b)); break;
             case 11: case 12: a = upTo(1, r.nextBoolean() ? 60 : 8);
                 same("sealing(" + h + ", " + a + ")", x.sealing(h, a), m.sealing(h, a)); break;
             case 13: a = upTo(1, r.nextInt(5) == 0 ? 20 : 6); same("change(" + a + ")", x.change(a), m.change(a)); break;
             case 14: case 15: same("bequest(" + h + ", NONE)", x.bequest(h, -1), m.bequest(h, -1)); break;
             case 16: case 17: same("bequest(" + h + ", " + j + ")", x.bequest(h, j), m.bequest(h, j)); break;
-            case 18: a = upTo(1, 20); b = upTo(0, a); same("siege(" + a + ", " + b + ")", x.siege(a, b), m.siege(a, b)); break;
+            case 18: a = upTo(1, 20); b = upTo(0, within(a, 20)); same("siege(" + a + ", " + b + ")", x.siege(a, b), m.siege(a, b)); break;
             case 19: a = upTo(1, 20); b = upTo(0, r.nextBoolean() ? 30 : 999);
                 same("when(" + a + ", " + b + ")", x.when(a, b), m.when(a, b)); break;
             case 20: case 21: a = someJar(); same("older(" + j + ", " + a + ")", x.older(j, a), m.older(j, a)); break;
