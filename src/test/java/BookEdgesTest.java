@@ -27,6 +27,8 @@ public final class BookEdgesTest {
         anImageKeepsWhenJarsWereSealed();
         whatAnImageDoesNotKeep();
         anImageStays();
+        imagesAreTwo();
+        anImageBecomesAnother();
         imagesAreGoneByLand();
         c.finish();
     }
@@ -481,7 +483,7 @@ public final class BookEdgesTest {
         c.due("THE TEXT is read", x.land(), 1);
     }
 
-    /** An IMAGE can be gone back to again, and become another. */
+    /** An IMAGE can be gone back to again. */
     private static void anImageStays() {
         DatedJars x = ofTwoHouses();
         String first = Checks.look(x);
@@ -493,16 +495,32 @@ public final class BookEdgesTest {
             c.due("goBack(0)", x.goBack(0), 1);
             c.same("goBack(0) no. " + i, Checks.look(x), first);
         }
+    }
+
+    /** IMAGES 0 and 1 are two: neither changes by the other. */
+    private static void imagesAreTwo() {
+        DatedJars x = ofTwoHouses();
+        String first = Checks.look(x);
+        x.keep(0);
+        x.year(1);
+        String second = Checks.look(x);
+        x.keep(1);
+        x.year(1);
+        x.goBack(0);
+        c.same("image 0 by keep(1)", Checks.look(x), first);
+        x.goBack(1);
+        c.same("image 1", Checks.look(x), second);
+    }
+
+    /** "IMAGE i becomes what is so": what it was ahead is no more. */
+    private static void anImageBecomesAnother() {
+        DatedJars x = ofTwoHouses();
+        x.keep(0);
         x.year(1);
         String second = Checks.look(x);
         x.keep(1);
         x.year(1);
         String third = Checks.look(x);
-        x.goBack(0);
-        c.same("image 0 by keep(1)", Checks.look(x), first);
-        x.goBack(1);
-        c.same("image 1", Checks.look(x), second);
-        x.year(1);
         c.due("keep(0) again", x.keep(0), 1);
         x.goBack(1);
         c.same("image 1 by keep(0)", Checks.look(x), second);

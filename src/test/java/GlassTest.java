@@ -6,12 +6,15 @@ public final class GlassTest {
 
     public static void main(String[] args) {
         telling();
+        tellingTwelve();
         forging();
         forgingFewest();
         writing();
+        writingThirty();
         tearing();
         judging();
         seeds();
+        imagesThatThereAreNot();
         images();
         imagesAndJarsThatAreNoMore();
         c.finish();
@@ -29,10 +32,14 @@ public final class GlassTest {
         c.refused(x, before, "older(-1, 0)", x.older(-1, 0), UNKNOWN);
         c.refused(x, before, "older(0, NONE)", x.older(0, -1), UNKNOWN);
         c.refused(x, before, "older(2, 2)", x.older(2, 2), UNKNOWN);
+    }
+
+    private static void tellingTwelve() {
+        DatedJars x = fiveJars();
         for (int i = 1; i <= 12; i++) {
             c.due("older(3, 0) no. " + i, x.older(3, 0), i);
         }
-        before = Checks.look(x);
+        String before = Checks.look(x);
         c.refused(x, before, "older(3, 0) no. 13", x.older(3, 0), FULL);
         c.refused(x, before, "older(3, 3) no. 13: UNKNOWN first", x.older(3, 3), UNKNOWN);
         c.due("told(8)", x.told(8), 12);
@@ -94,11 +101,15 @@ public final class GlassTest {
         c.refused(x, before, "write(-1, -1): UNKNOWN first", x.write(-1, -1), UNKNOWN);
         c.refused(x, before, "write(-1, 0)", x.write(-1, 0), OUTSIDE);
         c.refused(x, before, "write(10000, 0)", x.write(10000, 0), OUTSIDE);
+    }
+
+    private static void writingThirty() {
+        DatedJars x = fiveJars();
         c.due("write(9999, 0)", x.write(9999, 0), 1);
         for (int i = 2; i <= 30; i++) {
             c.due("write no. " + i, x.write(0, 0), i);
         }
-        before = Checks.look(x);
+        String before = Checks.look(x);
         c.refused(x, before, "write no. 31", x.write(0, 0), FULL);
         c.refused(x, before, "write no. 31 out of bounds: OUTSIDE first", x.write(10000, 0), OUTSIDE);
         c.due("told(9)", x.told(9), 30);
@@ -158,8 +169,12 @@ public final class GlassTest {
         c.due("one draw from 0", x.seed(0), 12345);
     }
 
-    private static void images() {
-        DatedJars x = Checks.landOf("harvest 9,0;house 4 2;house 8 0;jar plain 0 0 4 9;jar plum 1 0 5 9;");
+    private static DatedJars twoOfTwo() {
+        return Checks.landOf("harvest 9,0;house 4 2;house 8 0;jar plain 0 0 4 9;jar plum 1 0 5 9;");
+    }
+
+    private static void imagesThatThereAreNot() {
+        DatedJars x = twoOfTwo();
         String before = Checks.look(x);
         c.refused(x, before, "keep(-1)", x.keep(-1), UNKNOWN);
         c.refused(x, before, "keep(2)", x.keep(2), UNKNOWN);
@@ -167,6 +182,11 @@ public final class GlassTest {
         c.refused(x, before, "goBack(2)", x.goBack(2), UNKNOWN);
         c.refused(x, before, "goBack(0)", x.goBack(0), NOT);
         c.refused(x, before, "goBack(1)", x.goBack(1), NOT);
+    }
+
+    private static void images() {
+        DatedJars x = twoOfTwo();
+        String before = Checks.look(x);
         x.seed(3);
         c.due("keep(1)", x.keep(1), 1);
         c.due("goBack(0)", x.goBack(0), NOT);

@@ -3,8 +3,12 @@ import java.util.Random;
 /** Random runs of calls, compared with the Model; the draws are the same in every run of the test. */
 public final class ModelTest {
     private static final Checks c = new Checks("ModelTest");
-    private static final int RUNS = 400;
-    private static final int CALLS = 240;
+    private static final int RUNS = 900;
+    /** What an object answers behind so many calls is free. */
+    private static final int MOST_CALLS = 512;
+    /** A look at 4 HOUSES, 24 JARS and one of each that there is not; a text of 400 bytes. */
+    private static final int CALLS_OF_A_LOOK = 12 + 5 * 7 + 25 * 8 + 2;
+    private static final int CALLS_OF_A_TEXT = 52;
     private static final String[] PIECES = {"house", "jar", "harvest", "plain", "plum", "glass", " ", " ", ",", ";", ";",
         "0", "1", "20", "21", "99", "100", "0001", "x", "?", "house 1 1;", "jar plum 0 1 1 1;", "harvest 3,4;"};
 
@@ -12,6 +16,7 @@ public final class ModelTest {
     private final Model m = new Model();
     private final Random r;
     private final String run;
+    private int calls;
 
     private ModelTest(long seed) {
         r = new Random(seed);
@@ -31,13 +36,25 @@ public final class ModelTest {
 
     private void go() {
         tell(goodText());
-        for (int i = 0; i < CALLS; i++) {
+        while (hasCallsFor(CALLS_OF_A_LOOK + 2)) {
             oneCall();
-            if (r.nextInt(CALLS) == 0) {
+            if (r.nextBoolean()) {
+                oneLook();
+            }
+            if (r.nextInt(150) == 0 && hasCallsFor(CALLS_OF_A_LOOK + CALLS_OF_A_TEXT)) {
                 tell(r.nextInt(3) == 0 ? "house 1 1;?" : goodText());
             }
         }
         lookAtAll();
+        end();
+    }
+
+    private boolean hasCallsFor(int more) {
+        return calls + more <= MOST_CALLS;
+    }
+
+    private void end() {
+        c.due(run + "calls within what is promised (1: yes)", calls <= MOST_CALLS ? 1 : 0, 1);
     }
 
     /** 24 jars that can be changed about more often than once is allowed. */
@@ -55,12 +72,15 @@ public final class ModelTest {
             same("give", x.give(12 + i, owners[i]), m.give(12 + i, owners[i]));
             same("label", x.label(12 + i, dates[i]), m.label(12 + i, dates[i]));
         }
+        c.due("change(20) of the model", m.change(20), 20);
         same("change(20)", x.change(20), 20);
-        same("change(20) of the model", 20, m.change(20));
-        lookAtAll();
+        for (int j = 0; j < 24; j++) {
+            same("jar(" + j + ", 1)", x.jar(j, 1), m.jar(j, 1));
+        }
+        c.due("change(20) again of the model", m.change(20), 2);
         same("change(20) again", x.change(20), 2);
-        same("change(20) again of the model", 2, m.change(20));
         lookAtAll();
+        end();
     }
 
     private void oneText() {
@@ -75,11 +95,18 @@ public final class ModelTest {
         }
         tell(s.toString());
         lookAtAll();
+        end();
     }
 
+    /** In pieces of eight bytes, the last one of what is left, above them bytes that are not asked for. */
     private void tell(String text) {
-        for (int i = 0; i < text.length(); i++) {
-            same("feed", x.feed(1, text.charAt(i)), m.feed(1, text.charAt(i)));
+        for (int i = 0; i < text.length(); i += 8) {
+            int n = Math.min(8, text.length() - i);
+            long bytes = r.nextLong();
+            for (int k = i; k < i + n; k++) {
+                bytes = bytes << 8 | text.charAt(k);
+            }
+            same("feed", x.feed(n, bytes), m.feed(n, bytes));
         }
         same("land of '" + text + "'", x.land(), m.land());
         same("fault of '" + text + "'", x.fault(), m.fault());
@@ -108,24 +135,48 @@ public final class ModelTest {
         return s.toString();
     }
 
+    /** Compares what one call answered. */
     private void same(String call, int got, int want) {
+        calls++;
         c.due(run + call, got, want);
     }
 
     private void lookAtAll() {
         for (int what = -1; what <= 10; what++) {
-            same("told(" + what + ")", x.told(what), m.told(what));
+            lookAtTold(what);
         }
-        for (int h = -1; h <= 4; h++) {
+        for (int h = 0; h <= m.told(0); h++) {
             for (int what = -1; what <= 5; what++) {
-                same("house(" + h + ", " + what + ")", x.house(h, what), m.house(h, what));
+                lookAtHouse(h, what);
             }
         }
-        for (int j = -1; j <= 24; j++) {
-            for (int what = -1; what <= 8; what++) {
-                same("jar(" + j + ", " + what + ")", x.jar(j, what), m.jar(j, what));
+        for (int j = 0; j <= m.told(1); j++) {
+            for (int what = 0; what <= 7; what++) {
+                lookAtJar(j, what);
             }
         }
+        lookAtJar(0, -1);
+        lookAtJar(0, 8);
+    }
+
+    private void oneLook() {
+        switch (r.nextInt(3)) {
+            case 0: lookAtTold(upTo(0, 9)); break;
+            case 1: lookAtHouse(someHouse(), upTo(0, 4)); break;
+            default: lookAtJar(someJar(), upTo(0, 7)); break;
+        }
+    }
+
+    private void lookAtTold(int what) {
+        same("told(" + what + ")", x.told(what), m.told(what));
+    }
+
+    private void lookAtHouse(int h, int what) {
+        same("house(" + h + ", " + what + ")", x.house(h, what), m.house(h, what));
+    }
+
+    private void lookAtJar(int j, int what) {
+        same("jar(" + j + ", " + what + ")", x.jar(j, what), m.jar(j, what));
     }
 
     private int someHouse() {
@@ -185,6 +236,5 @@ public final class ModelTest {
             case 29: a = upTo(0, 1); same("keep(" + a + ")", x.keep(a), m.keep(a)); break;
             default: a = upTo(0, 1); same("goBack(" + a + ")", x.goBack(a), m.goBack(a)); break;
         }
-        same("told(7)", x.told(7), m.told(7));
     }
 }

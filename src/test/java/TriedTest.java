@@ -12,8 +12,11 @@ public final class TriedTest {
         sealings();
         changes();
         changeNeedsBothBetter();
-        bequests();
+        bequestRefuses();
+        bequestsToThree();
+        bequestsToOneAndNone();
         bequestLooksAtEight();
+        siegeRefuses();
         sieges();
         whenToBreakTheLaw();
         c.finish();
@@ -21,10 +24,11 @@ public final class TriedTest {
 
     private static void planIs(DatedJars x, int h, int n, int hunger, int... sets) {
         String before = Checks.look(x);
-        c.refused(x, before, "plan(" + h + ", " + n + ", NONE)", x.plan(h, n, NONE), hunger);
+        c.due("plan(" + h + ", " + n + ", NONE)", x.plan(h, n, NONE), hunger);
         for (int k = 0; k < sets.length; k++) {
-            c.refused(x, before, "plan(" + h + ", " + n + ", " + k + ")", x.plan(h, n, k), sets[k]);
+            c.due("plan(" + h + ", " + n + ", " + k + ")", x.plan(h, n, k), sets[k]);
         }
+        c.same("what is so, by plans of " + n + " years", Checks.look(x), before);
     }
 
     private static void plans() {
@@ -182,15 +186,25 @@ public final class TriedTest {
         return hunger;
     }
 
-    private static void bequests() {
-        DatedJars x = Checks.landOf("house 1 0;house 1 0;house 1 0;house 1 0;"
-                + "jar plain 1 0 8 0;jar plain 1 0 5 0;jar glass 0 0 90 0;jar plum 1 0 4 9;jar plain 1 0 3 0;jar plain 1 0 50 0;");
-        x.open(5);
+    private static void bequestRefuses() {
+        DatedJars x = fourHouses();
         String before = Checks.look(x);
         c.refused(x, before, "bequest(4, NONE)", x.bequest(4, NONE), UNKNOWN);
         c.refused(x, before, "bequest(-1, NONE)", x.bequest(-1, NONE), UNKNOWN);
         c.refused(x, before, "bequest(1, 6)", x.bequest(1, 6), UNKNOWN);
         c.refused(x, before, "bequest(1, -2)", x.bequest(1, -2), UNKNOWN);
+    }
+
+    private static DatedJars fourHouses() {
+        DatedJars x = Checks.landOf("house 1 0;house 1 0;house 1 0;house 1 0;"
+                + "jar plain 1 0 8 0;jar plain 1 0 5 0;jar glass 0 0 90 0;jar plum 1 0 4 9;jar plain 1 0 3 0;jar plain 1 0 50 0;");
+        x.open(5);
+        return x;
+    }
+
+    private static void bequestsToThree() {
+        DatedJars x = fourHouses();
+        String before = Checks.look(x);
         // 8 | 5 and 3 | 4 differ by 4, but 8 | 5 | 4 and 3 by 3
         c.refused(x, before, "bequest(1, NONE)", x.bequest(1, NONE), 3);
         int[] heirs = {0, 2, NONE, 3, 3, NONE};
@@ -201,6 +215,9 @@ public final class TriedTest {
         c.due("the first of them", x.bequest(0, 2), 1);
         c.due("no jars", x.bequest(2, NONE), 0);
         c.due("not of these", x.bequest(2, 0), NONE);
+    }
+
+    private static void bequestsToOneAndNone() {
         DatedJars two = Checks.landOf("house 1 0;house 1 0;jar plain 1 0 8 0;jar plain 1 0 5 0;");
         c.due("one heir", two.bequest(1, NONE), 0);
         c.due("all to it", two.bequest(1, 1), 0);
@@ -232,13 +249,22 @@ public final class TriedTest {
         c.due("a gone one is not", x.bequest(2, 6), NONE);
     }
 
-    private static void sieges() {
-        DatedJars x = Checks.landOf("harvest 50;house 6 5;house 4 5;jar glass 0 2 6 0;jar glass 0 0 1 0;jar plain 1 9 8 0;");
+    private static DatedJars besieged() {
+        return Checks.landOf("harvest 50;house 6 5;house 4 5;jar glass 0 2 6 0;jar glass 0 0 1 0;jar plain 1 9 8 0;");
+    }
+
+    private static void siegeRefuses() {
+        DatedJars x = besieged();
         String before = Checks.look(x);
         c.refused(x, before, "siege(0, 0)", x.siege(0, 0), OUTSIDE);
         c.refused(x, before, "siege(21, 0)", x.siege(21, 0), OUTSIDE);
         c.refused(x, before, "siege(3, 4)", x.siege(3, 4), OUTSIDE);
         c.refused(x, before, "siege(3, -1)", x.siege(3, -1), OUTSIDE);
+    }
+
+    private static void sieges() {
+        DatedJars x = besieged();
+        String before = Checks.look(x);
         c.refused(x, before, "siege(3, 3)", x.siege(3, 3), 5 + 6 + 0 + 4 + 4 + 4);
         c.refused(x, before, "siege(3, 2)", x.siege(3, 2), 5 + 6 + 0 + 4 + 4 + 0);
         c.refused(x, before, "siege(3, 0)", x.siege(3, 0), 0 + 6 + 6 + 0 + 4 + 4);
