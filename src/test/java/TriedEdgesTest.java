@@ -6,6 +6,7 @@ public final class TriedEdgesTest {
     public static void main(String[] args) {
         nothingChangesByIt();
         planOfOneToTwelveYears();
+        planAfterALongerOne();
         planLooksAtEightAtMost();
         planOfTheLastNumbers();
         planSealsNothing();
@@ -88,6 +89,15 @@ public final class TriedEdgesTest {
         DatedJars untold = Checks.landOf("house 12 0;");
         planIs(untold, 0, 2, 0);
         planIs(untold, 0, 24, 0, 0, 0, 0, 0, 0, 0, 0, 0, 0, 0, 0);
+    }
+
+    /** What a longer PLAN found is nothing to a shorter one, whether there are JARS or not. */
+    private static void planAfterALongerOne() {
+        DatedJars x = Checks.landOf("harvest 0;house 5 0;house 5 0;jar glass 1 0 2 0;jar glass 1 9 2 0;");
+        for (int n = 12; n >= 1; n--) {
+            c.due("plan(0, " + n + ", NONE)", x.plan(0, n, NONE), 5 * n);
+            c.due("plan(1, " + n + ", NONE)", x.plan(1, n, NONE), 5 * n - (n > 9 ? 4 : 2));
+        }
     }
 
     /** "8 at most, the least ones, are looked at". */

@@ -15,6 +15,7 @@ public final class YearEdgesTest {
         halvesAreCut();
         lawsAroundTheDate();
         aHouseOpensIfItMust();
+        aHouseOpensAllThereAre();
         theLeastDateThenTheLeastJar();
         onlyItsOwnJars();
         hungerIsWhatIsMissing();
@@ -177,6 +178,21 @@ public final class YearEdgesTest {
         x = Checks.landOf("harvest 0;house 99 0;" + "jar plum 0 0 9 0;".repeat(11) + "jar plum 0 1 9 0;");
         c.due("all that MAY be", x.year(1), 0);
         c.due("all but the last", x.told(7), 0x7ff);
+    }
+
+    /** Twelve JARS told and twelve sealed, all of one HOUSE, and it opens every one in one YEAR. */
+    private static void aHouseOpensAllThereAre() {
+        DatedJars x = Checks.landOf("harvest 1;house 99 0;" + "house 0 20;".repeat(3) + "jar glass 1 0 1 0;".repeat(12));
+        c.due("HUNGER until there are 24", x.year(4), 4 * 98);
+        c.due("JARS", x.told(1), 24);
+        c.due("none GONE", x.told(7), 0);
+        for (int j = 0; j < 24; j++) {
+            x.give(j, 0);
+        }
+        x.law(2);
+        c.due("HUNGER in a siege of one YEAR", x.siege(1, 1), 99 - 24);
+        c.due("HUNGER with all", x.year(1), 99 - 1 - 24);
+        c.due("all GONE", x.told(7), (1 << 24) - 1);
     }
 
     /** "the first (the least DATE, of like ones the least JAR)". */
